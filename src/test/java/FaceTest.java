@@ -1,0 +1,66 @@
+import java.lang.reflect.Field;
+import java.lang.reflect.Method;
+import java.lang.reflect.Modifier;
+import java.util.Arrays;
+import java.util.Set;
+import java.util.TreeSet;
+import java.util.stream.Collectors;
+
+/** The face of the document and nothing beside it (LANGUAGE.md, rules 1, 2 and 5). */
+public final class FaceTest {
+    private static final String[] FACE = {
+        "measure 2", "make 2", "notch 4", "wear 2", "split 3", "memo 2", "as 2", "lose 2", "burn 1", "about 2",
+        "depth 2", "cut 2", "composed 1", "slack 1", "apart 2", "pairs 0", "other 1", "raised 1", "day 1", "pass 2",
+        "holder 2", "passing 2", "owes 2", "net 1", "ring 1", "setOff 0", "toPay 1", "pay 2", "purse 2", "lay 1",
+        "column 2", "reduce 0", "sum 0", "fewest 0", "tell 1", "check 0", "count 1", "found 1"};
+
+    public static void main(String[] args) {
+        methodsAreThoseOfTheDocument();
+        nothingElseCanBeSeen();
+        classesInsideAreStatic();
+        Due.end();
+    }
+
+    private static void methodsAreThoseOfTheDocument() {
+        Set<String> want = new TreeSet<>(Arrays.asList(FACE));
+        Set<String> got = new TreeSet<>();
+        for (Method method : TallyCourt.class.getDeclaredMethods()) {
+            if (Modifier.isPublic(method.getModifiers())) {
+                got.add(method.getName() + " " + method.getParameterCount());
+                Due.holds(method + " takes and answers ints", method.getReturnType() == int.class
+                    && Arrays.stream(method.getParameterTypes()).allMatch(type -> type == int.class));
+            }
+        }
+        Due.holds("the face is " + want + ", it is " + got, got.equals(want));
+        Due.same("public constructors", TallyCourt.class.getConstructors().length, 1);
+        Due.holds("public and final", Modifier.isPublic(TallyCourt.class.getModifiers())
+            && Modifier.isFinal(TallyCourt.class.getModifiers()));
+    }
+
+    private static void nothingElseCanBeSeen() {
+        Set<String> names = Arrays.stream(FACE).map(row -> row.split(" ")[0]).collect(Collectors.toSet());
+        for (Method method : TallyCourt.class.getDeclaredMethods()) {
+            if (!Modifier.isPublic(method.getModifiers())) {
+                Due.holds(method + " is private", Modifier.isPrivate(method.getModifiers()));
+                Due.holds(method + " has a name of its own", !names.contains(method.getName()));
+            }
+        }
+        for (Field field : TallyCourt.class.getDeclaredFields()) {
+            Due.holds(field + " is private", Modifier.isPrivate(field.getModifiers()));
+        }
+    }
+
+    private static void classesInsideAreStatic() {
+        for (Class<?> inside : TallyCourt.class.getDeclaredClasses()) {
+            Due.holds(inside + " is static", Modifier.isStatic(inside.getModifiers()));
+            for (Field field : inside.getDeclaredFields()) {
+                Due.holds(field + " is no static state",
+                    !Modifier.isStatic(field.getModifiers()) || Modifier.isFinal(field.getModifiers()));
+            }
+        }
+        for (Field field : TallyCourt.class.getDeclaredFields()) {
+            Due.holds(field + " is no static state",
+                !Modifier.isStatic(field.getModifiers()) || Modifier.isFinal(field.getModifiers()));
+        }
+    }
+}
