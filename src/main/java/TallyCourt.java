@@ -372,7 +372,8 @@ public final class TallyCourt {
         if (i < -2) {
             return finding(BEYOND);
         }
-        seekRing();
+        readDebts();
+        circle.seek(debts.owed);
         if (circle.size == 0 || i >= circle.size) {
             return finding(NONE);
         }
@@ -383,7 +384,8 @@ public final class TallyCourt {
     }
 
     public int setOff() {
-        seekRing();
+        readDebts();
+        circle.seek(debts.owed);
         if (circle.size == 0) {
             return finding(NONE);
         }
@@ -676,11 +678,6 @@ public final class TallyCourt {
         int value = debts.values[stock];
         int daysLate = Math.max(0, today - pieces[pairing.foilOf[stock]].due);
         return value + quotient(daysLate, TERM) * quotient(value, LATE_PART);
-    }
-
-    private void seekRing() {
-        readDebts();
-        circle.seek(debts.owed);
     }
 
     private boolean isDebtOf(int stock, int debtor, int creditor) {
