@@ -1109,27 +1109,21 @@ public final class TallyCourt {
             return least;
         }
 
-        /** Whether a way of the first `known` parties can be led on to a ring; size is PARTIES at most. */
+        /**
+         * Whether a way of the first `known` parties can be led on to a ring; size is PARTIES at most.
+         * No party is met twice: that would hold a smaller ring, and smaller ones were sought before.
+         */
         private static boolean goesRound(int[] way, int[][] owed, int size, int known) {
             int last = way[known - 1];
             if (known >= size) {
                 return owed[last][way[0]] > 0;
             }
             for (int next = way[0] + 1; next < PARTIES; next++) {
-                if (owed[last][next] > 0 && !holds(way, known, next)) {
+                if (owed[last][next] > 0) {
                     way[known] = next;
                     if (goesRound(way, owed, size, known + 1)) {
                         return true;
                     }
-                }
-            }
-            return false;
-        }
-
-        private static boolean holds(int[] way, int known, int party) {
-            for (int i = 0; i < known; i++) {
-                if (way[i] == party) {
-                    return true;
                 }
             }
             return false;

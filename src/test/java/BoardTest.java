@@ -36,7 +36,9 @@ public final class BoardTest {
         // 7 does not go into 240, so column 2 stays; 12 no longer goes into 7 either way.
         Due.are(Due.after("measure 2 7; column 1 15; column 2 100"), "reduce = 2; column 1 -1 = 1; column 2 -1 = 102; column 3 -1 = 0");
         Due.are(Due.after("measure 1 5; column 1 100; column 2 20"), "reduce = 1; column 1 -1 = 100; column 2 -1 = 0; column 3 -1 = 1");
+        // There is no column behind the fifth, whatever its worth goes into (9091 goes into 100001).
         Due.are(Due.after("column 5 1000"), "reduce = 0; column 5 -1 = 1000");
+        Due.are(Due.after("measure 5 9091; column 5 1000"), "reduce = 0; column 5 -1 = 1000");
         Due.are(Due.after("column 1 12; column 2 19"), "reduce = 2; column 3 -1 = 1; column 2 -1 = 0; column 1 -1 = 0");
     }
 
@@ -52,6 +54,8 @@ public final class BoardTest {
             + "fewest = 1; column 2 1000 = 0; sum = 12012; fewest = 2; column 5 1 = 0; fewest = BEYOND; column 2 666 = 1000;"
             + "column 1 8 = 12; sum = 20000; fewest = 24; column 1 9 = 8; sum = 20001; fewest = BEYOND");
         Due.are(Due.after("measure 1 3; measure 2 5; column 1 1"), "fewest = 1; column 1 3 = 1; fewest = 3; column 1 0 = 3; column 2 1 = 0; fewest = 1");
+        Due.are(Due.after("measure 2 2; column 1 2"), "fewest = 1");
+        Due.are(Due.after("measure 2 3; measure 3 4; column 1 6"), "fewest = 2");
         // Greed would take 25 first: 30 is 25 and five ones, or three tens.
         Due.are(Due.after("measure 2 10; measure 3 25; column 1 30"), "fewest = 3; column 1 40 = 30; fewest = 4; column 1 41 = 40; fewest = 5");
     }

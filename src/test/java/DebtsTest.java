@@ -13,6 +13,7 @@ public final class DebtsTest {
         payAll();
         payAPart();
         payFindings();
+        payTheEdges();
         payDue();
         purse();
         Due.end();
@@ -106,6 +107,12 @@ public final class DebtsTest {
             + "count 0 = 8; owes 1 0 = 60");
         Due.are(Due.after(three + debt(6, 0, 1, 2, 4, 40)), "setOff = 24; about 0 4 = 2; about 2 4 = 2; about 3 4 = 2; about 4 4 = 0;"
             + "count 0 = 10; about 8 7 = 12; about 8 3 = 20; other 8 = 9; owes 1 0 = 48");
+        // Others' debts to the same creditor, and the debtor's to others, stay, though their stocks come first.
+        Due.are(Due.after(debt(0, 3, 0, 1, 1, 10) + debt(2, 1, 4, 1, 2, 10) + debt(4, 1, 0, 1, 3, 10) + debt(6, 0, 1, 1, 4, 10)),
+            "setOff = 12; about 0 4 = 0; about 2 4 = 0; about 4 4 = 2; about 6 4 = 2; count 0 = 8");
+        // The least debts that there are.
+        String one = "make 1 0; notch 0 0 1 5; split 0 1 9; make 2 1; notch 2 0 1 5; split 2 0 9;";
+        Due.are(Due.after(one), "ring -1 = 2; ring -2 = 1; setOff = 1; count 3 = 4; count 0 = 4");
         // A memo of a burnt foil stays.
         Due.are(Due.after(debt(0, 1, 0, 1, 1, 10) + debt(2, 0, 1, 1, 2, 10) + "memo 1 5"), "setOff = 12; about 4 4 = 0; count 3 = 4");
     }
@@ -115,6 +122,9 @@ public final class DebtsTest {
         // 12 less 1 is 11, which can't be composed.
         String odd = debt(0, 1, 0, 1, 1, 10) + "make 2 1; notch 2 0 1 5; split 2 0 10;";
         Due.are(Due.after(odd), "ring -2 = 1; setOff = STATE; count 3 = 0; count 0 = 4; owes 1 0 = 12; owes 0 1 = 1; found 3 = 1");
+        // A rest of 1 can't be composed where the least worth is 2.
+        Due.are(Due.after("measure 1 2; measure 2 3; make 1 0; notch 0 0 2 5; split 0 1 9; make 2 1; notch 2 0 1 5; split 2 0 9"),
+            "ring -2 = 2; setOff = STATE; count 3 = 0");
         // One more piece than 28 leaves no room for two.
         TallyCourt full = Due.after(debt(0, 1, 0, 2, 1, 10) + debt(2, 0, 1, 1, 2, 10));
         for (int i = 4; i < 29; i++) {
@@ -189,6 +199,21 @@ public final class DebtsTest {
             Due.is(full, "make 9 2", i);
         }
         Due.are(full, "pay 0 12 = FULL; purse 0 -1 = 1000; purse 1 -1 = 1000; about 0 4 = 0; pay 0 14 = STATE; pay 0 24 = 0; found 4 = 1");
+    }
+
+    private static void payTheEdges() {
+        // A rest of 1: it needs room, and a worth of 1.
+        TallyCourt full = Due.after(debt(0, 1, 0, 1, 1, 10) + "make 9 2;".repeat(27));
+        Due.are(full, "pay 0 11 = FULL; about 0 4 = 0; measure 1 2 = 1; pay 0 11 = STATE; pay 0 12 = 0");
+        // A rest of 72013 takes all 40 places.
+        StringBuilder wide = new StringBuilder("make 0 0;");
+        for (int i = 0; i < 6; i++) {
+            wide.append("notch 0 ").append(6 * i).append(" 5 5;");
+        }
+        Due.are(Due.after(wide + "notch 0 36 3 5; split 0 1 9"), "toPay 0 = 72240; pay 0 227 = 72013; cut 2 6 = 3602; cut 2 7 = 3901;"
+            + "about 2 7 = 72013; about 3 7 = 72013; other 2 = 3");
+        // The grain of a piece that was never split, or is burnt, has been had.
+        Due.are(Due.after("make 0 0; burn 0; make 2 0; notch 1 0 2 5; split 1 1 9; make 1 3"), "pay 1 4 = 8; about 4 1 = 3; about 5 1 = 3");
     }
 
     private static void payDue() {

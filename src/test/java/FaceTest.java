@@ -1,12 +1,16 @@
+import java.io.IOException;
 import java.lang.reflect.Field;
 import java.lang.reflect.Method;
 import java.lang.reflect.Modifier;
+import java.nio.file.Files;
+import java.nio.file.Path;
 import java.util.Arrays;
 import java.util.Set;
 import java.util.TreeSet;
+import java.util.regex.Pattern;
 import java.util.stream.Collectors;
 
-/** The face of the document and nothing beside it (LANGUAGE.md, rules 1, 2 and 5). */
+/** The face of the document and nothing beside it, and words that LANGUAGE.md rules out (rules 1, 2, 5, 6, 13). */
 public final class FaceTest {
     private static final String[] FACE = {
         "measure 2", "make 2", "notch 4", "wear 2", "split 3", "memo 2", "as 2", "lose 2", "burn 1", "about 2",
@@ -14,11 +18,28 @@ public final class FaceTest {
         "holder 2", "passing 2", "owes 2", "net 1", "ring 1", "setOff 0", "toPay 1", "pay 2", "purse 2", "lay 1",
         "column 2", "reduce 0", "sum 0", "fewest 0", "tell 1", "check 0", "count 1", "found 1"};
 
-    public static void main(String[] args) {
+    private static final String[] RULED_OUT = {"throw", "throws", "try", "catch", "synchronized", "assert", "->", "::", "Object",
+        "hashCode", "toString", "equals", "System\\.(?!arraycopy)", "Thread", "Random", "import (?!java\\.util\\.Arrays;)",
+        "\\w+Exact", "static \\{", "package"};
+
+    public static void main(String[] args) throws IOException {
         methodsAreThoseOfTheDocument();
         nothingElseCanBeSeen();
         classesInsideAreStatic();
+        sourceKeepsToTheLanguage();
         Due.end();
+    }
+
+    /** Comments are cut out first, as they may say any word. */
+    private static void sourceKeepsToTheLanguage() throws IOException {
+        String source = Files.readString(Path.of("src/main/java/TallyCourt.java"));
+        Due.holds("signs up to 127", source.chars().allMatch(sign -> sign < 128));
+        String code = source.replaceAll("(?s)/\\*.*?\\*/", "").replaceAll("//[^\n]*", "");
+        for (String word : RULED_OUT) {
+            String whole = Character.isLetter(word.charAt(0)) ? "\\b" + word : word;
+            String ended = Character.isLetter(word.charAt(word.length() - 1)) ? whole + "\\b" : whole;
+            Due.holds("no " + word, !Pattern.compile(ended).matcher(code).find());
+        }
     }
 
     private static void methodsAreThoseOfTheDocument() {

@@ -73,10 +73,14 @@ public final class ModelTest {
         int sticks = numbers.oneIn(20) ? 15 : 3 + numbers.below(10);
         int places = 1 + numbers.below(3);
         int span = 2 + numbers.below(7);
-        for (int i = 0; i < sticks; i++) {
+        boolean stocksFirst = numbers.oneIn(2);
+        for (int i = 0; i < sticks && stocksFirst; i++) {
             call("make 0 " + numbers.below(parties));
-            call("notch " + (2 * i) + " 0 1 2");
-            call("split " + (2 * i) + " " + numbers.below(parties) + " 9");
+        }
+        for (int i = 0; i < sticks; i++) {
+            int stock = stocksFirst ? i : call("make 0 " + numbers.below(parties));
+            call("notch " + stock + " 0 1 2");
+            call("split " + stock + " " + numbers.below(parties) + " 9");
         }
         for (int piece = 0; piece < 2 * sticks; piece++) {
             for (int i = 0; i < places; i++) {

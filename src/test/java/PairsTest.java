@@ -9,6 +9,7 @@ public final class PairsTest {
         apart();
         pairs();
         mostBeforeLeast();
+        stocksOneBehindTheOther();
         leastStockFirst();
         other();
         raised();
@@ -49,6 +50,12 @@ public final class PairsTest {
         TallyCourt court = Due.after("make 5 0; notch 0 0 2 5; split 0 1 9; make 5 0; notch 2 0 2 5; split 2 1 9;");
         Due.are(court, "notch 3 0 2 6 = 12; notch 2 0 2 4 = 12; apart 0 1 = 40; apart 0 3 = 40; apart 2 1 = 40;"
             + "apart 2 3 = 0; pairs = 2; other 0 = 3; other 2 = 1; other 1 = 2; other 3 = 0");
+    }
+
+    // The same with stocks 0 and 1 one behind the other; foils 2 and 3.
+    private static void stocksOneBehindTheOther() {
+        TallyCourt court = Due.after("make 5 0; make 5 0; notch 0 0 2 5; notch 1 0 2 5; split 0 1 9; split 1 1 9;");
+        Due.are(court, "other 0 = 2; other 1 = 3; notch 3 0 2 6 = 12; notch 1 0 2 4 = 12; pairs = 2; other 0 = 3; other 1 = 2");
     }
 
     // Stocks 0, 2 both join foil 3 alone; stock 0 comes first, though 3 came with 2.

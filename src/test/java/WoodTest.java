@@ -105,6 +105,8 @@ public final class WoodTest {
             + "memo 1 0 = 2; split 2 4 40 = KIND; split 0 4 -1 = BEYOND; burn 0 = 0; split 0 4 40 = KIND");
         Due.are(Due.after("make 7 3"), "split 0 4 0 = STATE; notch 0 0 6 5 = -1; split 0 4 0 = STATE;"
             + "notch 0 0 1 0 = 12000; lose 0 1 = 1; split 0 4 0 = STATE; lose 0 0 = 1; burn 0 = 0; split 0 4 0 = STATE");
+        TallyCourt room = Due.after("make 7 3; notch 0 0 3 5;" + "make 1 1;".repeat(28));
+        Due.are(room, "split 0 4 40 = 29; count 0 = 30");
         TallyCourt full = Due.after("make 7 3; notch 0 0 3 5; make 1 1");
         for (int i = 2; i < 30; i++) {
             Due.is(full, "make 1 1", i);
