@@ -66,7 +66,7 @@ public final class BoardTest {
             + "fewest = 24; measure 1 2 = 1; sum = 48; fewest = 24");
         Due.are(Due.after("measure 1 2; measure 2 3; measure 3 4; measure 4 5; measure 5 6; column 1 1000; column 2 1000;"
             + "column 3 1000; column 4 1000; column 5 1000"), "sum = 20000; fewest = 3334; reduce = 0; sum = 20000");
-        // NONE is never due: what lies there is itself one way to lay its worth.
+        // What lies there is itself one way to lay its worth, so NONE wants a sum that has gone round: see BoardEdgesTest.
         Due.are(Due.after("measure 5 100000; column 5 1"), "fewest = BEYOND; column 5 0 = 1; fewest = 0");
     }
 }

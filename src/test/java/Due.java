@@ -15,6 +15,7 @@ final class Due {
     private static final int MOST_SHOWN = 40;
     private static final Map<String, Method> METHODS = new HashMap<>();
     private static int wrong = 0;
+    private static String matter = "";
 
     static {
         for (Method method : TallyCourt.class.getMethods()) {
@@ -76,7 +77,7 @@ final class Due {
         }
     }
 
-    private static int answer(String text) {
+    static int answer(String text) {
         return switch (text) {
             case "BEYOND" -> BEYOND;
             case "NONE" -> NONE;
@@ -99,10 +100,15 @@ final class Due {
         }
     }
 
+    /** What the next rows are about: told with each answer that is wrong. */
+    static void begin(String what) {
+        matter = what.isEmpty() ? "" : what + ": ";
+    }
+
     private static void tellWrong(String text) {
         wrong++;
         if (wrong <= MOST_SHOWN) {
-            System.out.println(text + " " + where());
+            System.out.println(matter + text + " " + where());
         }
     }
 

@@ -5,6 +5,7 @@ import java.util.List;
 public final class ModelTest {
     private static final int RUNS = 2000;
     private static final int TANGLES = 300;
+    private static final int ROUNDS = 40;
     private static final int MOST_CALLS = 512;
     private static final String[] QUERIES = {"pairs", "sum", "fewest", "check", "reduce", "setOff", "found", "count", "ring",
         "net", "owes", "other", "raised", "toPay", "holder", "passing", "apart", "about", "cut", "depth", "composed", "as"};
@@ -50,7 +51,28 @@ public final class ModelTest {
         for (int seed = 0; seed < TANGLES && Due.wrongSoFar() == 0; seed++) {
             new ModelTest(seed).tangle();
         }
+        for (int seed = 0; seed < ROUNDS && Due.wrongSoFar() == 0; seed++) {
+            new ModelTest(seed).goRound();
+        }
         Due.end();
+    }
+
+    /** A board that grows by reducing, until its worth goes round, once or twice. */
+    private void goRound() {
+        call("measure 5 100000");
+        call("measure 4 " + (100000 / (2 + numbers.below(4))));
+        call("measure 3 " + (1000 + numbers.below(3000)));
+        call("measure 2 " + (20 + numbers.below(200)));
+        call("measure 1 " + (1 + numbers.below(19)));
+        while (made.size() < MOST_CALLS) {
+            call("column 4 1000");
+            call("reduce");
+            call("sum");
+            if (numbers.oneIn(4)) {
+                call("column " + (1 + numbers.below(3)) + " " + numbers.below(1000));
+            }
+            call(numbers.oneIn(9) ? "column 5 -1" : "fewest");
+        }
     }
 
     private void run() {

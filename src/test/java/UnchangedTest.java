@@ -1,6 +1,3 @@
-import java.util.ArrayList;
-import java.util.List;
-
 /** An act that answers a finding changes nothing but what found() tells; the findings are asked in their order. */
 public final class UnchangedTest {
     // Stocks 0, 3, 6, 8 with foils 1, 4, 7, 9, memo 2, piece 5 uncut, piece 10 with a fault; 8 is lost, 9 burnt.
@@ -27,86 +24,28 @@ public final class UnchangedTest {
         "purse 0 100000001 = BEYOND", "lay 11 = BEYOND", "column 0 1 = BEYOND", "column 1 1001 = BEYOND", "count 8 = BEYOND",
         "found 0 = BEYOND", "found 6 = BEYOND"};
 
+    // Without its last cut stock 3 is worth 12, and what is left of 252 can be composed; but there is no room.
+    private static final String ALL_FULL = STATE + "notch 3 3 1 0; notch 4 3 1 0;" + Sticks.filler(19) + "tell 5;".repeat(28);
+    private static final String[] WHEN_FULL = {"make 0 0 = FULL", "memo 1 0 = FULL", "tell 4 = FULL", "setOff = FULL",
+        "pay 0 13 = STATE", "pay 0 24 = FULL"};
+
+    // 1 owes 0 254, 0 owes 1 24: what is left, 230, can't be composed.
+    private static final String ODD = STATE + "measure 1 1; notch 3 5 1 5; notch 4 5 1 5; measure 1 5; measure 2 14;";
+
     public static void main(String[] args) {
-        List<String> questions = questions();
-        List<Integer> before = answers(STATE, questions);
-        for (String row : FINDINGS) {
-            Due.are(Due.after(STATE), row);
-            String call = row.split("=")[0].trim();
-            same(call, questions, before, answers(STATE + call, questions));
-        }
-        whenAllIsFull();
-        whenARestCannotBeComposed();
+        changesNothing(STATE, FINDINGS);
+        changesNothing(ALL_FULL, WHEN_FULL);
+        Due.are(Due.after(ODD), "owes 0 1 = 24; owes 1 0 = 254");
+        changesNothing(ODD, "setOff = STATE");
         Due.end();
     }
 
-    private static void whenAllIsFull() {
-        // Without its last cut stock 3 is worth 12, and what is left of 252 can be composed.
-        String full = STATE + "notch 3 3 1 0; notch 4 3 1 0;" + "make 1 1;".repeat(19) + "tell 5;".repeat(28);
-        List<String> questions = questions();
-        List<Integer> before = answers(full, questions);
-        for (String row : new String[] {"make 0 0 = FULL", "memo 1 0 = FULL", "tell 4 = FULL", "setOff = FULL", "pay 0 13 = STATE",
-            "pay 0 24 = FULL"}) {
-            Due.are(Due.after(full), row);
+    private static void changesNothing(String setup, String... rows) {
+        Snapshot before = Snapshot.after(setup);
+        for (String row : rows) {
+            Due.are(Due.after(setup), row);
             String call = row.split("=")[0].trim();
-            same(call, questions, before, answers(full + call, questions));
+            Snapshot.after(setup + call).isSameAs(before, "after " + call);
         }
-    }
-
-    private static void whenARestCannotBeComposed() {
-        String odd = STATE + "measure 1 1; notch 3 5 1 5; notch 4 5 1 5; measure 1 5; measure 2 14;";
-        Due.are(Due.after(odd), "owes 0 1 = 24; owes 1 0 = 254; setOff = STATE");
-        List<String> questions = questions();
-        same("setOff", questions, answers(odd, questions), answers(odd + "setOff", questions));
-    }
-
-    private static void same(String call, List<String> questions, List<Integer> before, List<Integer> after) {
-        for (int i = 0; i < questions.size(); i++) {
-            Due.same("after " + call + ": " + questions.get(i), after.get(i), before.get(i));
-        }
-    }
-
-    private static List<String> questions() {
-        List<String> all = new ArrayList<>(List.of("pairs", "sum", "fewest", "ring -1", "ring -2", "ring 0", "ring 1"));
-        for (int piece = 0; piece < 12; piece++) {
-            for (int what = 0; what < 8; what++) {
-                all.add("about " + piece + " " + what);
-            }
-            for (int place = 0; place < 40; place++) {
-                all.add("depth " + piece + " " + place);
-            }
-            all.add("other " + piece);
-            all.add("raised " + piece);
-            all.add("toPay " + piece);
-            all.add("holder " + piece + " 0");
-            all.add("holder " + piece + " 50");
-        }
-        for (int what = 0; what < 8; what++) {
-            all.add("count " + what);
-            all.add("purse " + what + " -1");
-            all.add("net " + what);
-            all.add("passing " + what / 4 + " " + what % 4);
-        }
-        for (int width = 1; width <= 5; width++) {
-            all.add("column " + width + " -1");
-            all.add("composed " + width * 13);
-        }
-        // These two change what they tell, so they stand last, each on an object of its own.
-        all.add("check");
-        all.add("slack 1");
-        return all;
-    }
-
-    /** On new objects again and again, since an object answers 512 calls. */
-    private static List<Integer> answers(String calls, List<String> questions) {
-        List<Integer> all = new ArrayList<>();
-        TallyCourt court = null;
-        for (int i = 0; i < questions.size(); i++) {
-            if (i % 300 == 0 || i >= questions.size() - 2) {
-                court = Due.after(calls);
-            }
-            all.add(Due.call(court, questions.get(i)));
-        }
-        return all;
     }
 }
