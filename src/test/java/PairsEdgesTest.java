@@ -161,6 +161,11 @@ public final class PairsEdgesTest {
             + "raised 0 = 103; burn 1 = 0; raised 0 = NONE");
         Edge.test(19, "NONE: the FOIL is of a PAIR", TWO_ALIKE + "burn 3; notch 2 3 1 5", "other 0 = 1; raised 2 = NONE;"
             + "burn 0 = 0; raised 2 = 103");
+        Edge.test(19, "NONE: the FOIL is of a PAIR with a later STOCK", TWO_ALIKE + "burn 1; notch 0 3 1 5", "other 2 = 3;"
+            + "raised 0 = NONE; burn 2 = 0; raised 0 = 303");
+        Edge.test(19, "NONE: it is of a PAIR, though another FOIL would tell it", "make 5 0; notch 0 0 2 5; notch 0 3 1 5;"
+            + "split 0 1 10; make 5 2; notch 2 0 2 5; split 2 3 20; burn 2", "other 0 = 1; raised 0 = NONE; lose 1 1 = 1;"
+            + "raised 0 = 303; lose 1 0 = 1; raised 0 = NONE");
         Edge.test(19, "NONE: GRAINS are unlike", PAIR + "make 6 0; notch 2 0 2 5; split 2 1 10; notch 2 3 1 5; burn 0; burn 3",
             "raised 2 = NONE");
         Edge.test(19, "NONE: a MEMO alone", ALL_KINDS + "notch 0 3 1 5; burn 1", "apart 0 2 = 3; raised 0 = NONE");
